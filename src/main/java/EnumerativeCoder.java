@@ -343,35 +343,46 @@ public final class EnumerativeCoder {
     private static final class Desk {
         private static final int TRIANGLE = (PLACES + 1) * (PLACES + 2) / 2;
 
-        private final long[] binomials = new long[TRIANGLE];
-        private final int[] partitionCounts = new int[TRIANGLE];
+        private final long[] binomials = binomialTriangle();
+        private final int[] partitionCounts = partitionTriangle();
         /** For trees: the number of nodes of the subtree of each node, in preorder. */
         private final int[] sizes = new int[PLACES];
-        /** For trees: where the subtree of each node begins in the result, or open nodes. */
+        /** For trees: where the subtree of each node begins in the result; for words: the open nodes. */
         private final int[] starts = new int[PLACES];
         /** For trees: the rank of the subtree of each node among those of its size. */
         private final long[] ranks = new long[PLACES];
         /** For arrangements: how often each letter is still to come. */
         private final int[] letters = new int[SETTINGS];
 
-        private Desk() {
-            for (int n = 0; n <= PLACES; n++) {
-                for (int k = 0; k <= n; k++) {
-                    set(binomials, spot(n, k), k == 0 ? 1L : binomial(n - 1, k - 1) + binomial(n - 1, k));
-                }
-            }
-            set(partitionCounts, spot(0, 0), 1);
-            for (int n = 1; n <= PLACES; n++) {
-                for (int greatest = 1; greatest <= n; greatest++) {
-                    int ways = partitions(n, greatest - 1) + partitions(n - greatest, greatest);
-                    set(partitionCounts, spot(n, greatest), ways);
-                }
-            }
-        }
-
         /** A triangle's rows stand one behind the other, each one longer than the last. */
         private static int spot(int row, int column) {
             return row * (row + 1) / 2 + column;
+        }
+
+        private static long[] binomialTriangle() {
+            long[] triangle = new long[TRIANGLE];
+            for (int n = 0; n <= PLACES; n++) {
+                set(triangle, spot(n, 0), 1L);
+                for (int k = 1; k < n; k++) {
+                    long ways = at(triangle, spot(n - 1, k - 1)) + at(triangle, spot(n - 1, k));
+                    set(triangle, spot(n, k), ways);
+                }
+                set(triangle, spot(n, n), 1L);
+            }
+            return triangle;
+        }
+
+        private static int[] partitionTriangle() {
+            int[] triangle = new int[TRIANGLE];
+            set(triangle, spot(0, 0), 1);
+            for (int n = 1; n <= PLACES; n++) {
+                for (int greatest = 1; greatest <= n; greatest++) {
+                    int rest = n - greatest;
+                    int with = at(triangle, spot(rest, Math.min(rest, greatest)));
+                    set(triangle, spot(n, greatest), at(triangle, spot(n, greatest - 1)) + with);
+                }
+            }
+            return triangle;
         }
 
         private long binomial(int n, int k) {
@@ -453,7 +464,6 @@ public final class EnumerativeCoder {
             this.order = order;
         }
 
-        @Override
         int setting(int i) {
             switch (i) {
                 case 0: return n;
@@ -463,7 +473,6 @@ public final class EnumerativeCoder {
             }
         }
 
-        @Override
         boolean accepts(int[] row, Desk desk) {
             int last = -1;
             for (int i = 0; i < width; i++) {
@@ -476,7 +485,6 @@ public final class EnumerativeCoder {
             return true;
         }
 
-        @Override
         long placeOf(int[] row, Desk desk) {
             if (order == LEXICOGRAPHIC) {
                 return lexicographicPlace(row, desk);
@@ -507,7 +515,6 @@ public final class EnumerativeCoder {
             return place;
         }
 
-        @Override
         void lay(long place, int[] row, Desk desk) {
             if (order == LEXICOGRAPHIC) {
                 layLexicographic(place, row, desk);
@@ -540,7 +547,6 @@ public final class EnumerativeCoder {
         }
 
         /** The complement. */
-        @Override
         void turn(int[] row, int[] result, Desk desk) {
             int next = 0;
             int written = 0;
@@ -554,7 +560,6 @@ public final class EnumerativeCoder {
             }
         }
 
-        @Override
         Family turnedFamily() {
             return new Subsets(n, n - width, order, size);
         }
@@ -578,7 +583,6 @@ public final class EnumerativeCoder {
             return product;
         }
 
-        @Override
         int setting(int i) {
             switch (i) {
                 case 0: return width;
@@ -587,7 +591,6 @@ public final class EnumerativeCoder {
             }
         }
 
-        @Override
         boolean accepts(int[] row, Desk desk) {
             int seen = 0;
             for (int i = 0; i < width; i++) {
@@ -600,7 +603,6 @@ public final class EnumerativeCoder {
             return true;
         }
 
-        @Override
         long placeOf(int[] row, Desk desk) {
             return order == PLAIN_CHANGES ? plainPlace(row) : lexicographicPlace(row);
         }
@@ -643,7 +645,6 @@ public final class EnumerativeCoder {
             return (place & 1) == 0 ? value - turn : turn;
         }
 
-        @Override
         void lay(long place, int[] row, Desk desk) {
             if (order == PLAIN_CHANGES) {
                 layPlain(place, row);
@@ -693,7 +694,6 @@ public final class EnumerativeCoder {
         }
 
         /** The inverse. */
-        @Override
         void turn(int[] row, int[] result, Desk desk) {
             for (int i = 0; i < width; i++) {
                 set(result, at(row, i), i);
@@ -712,7 +712,6 @@ public final class EnumerativeCoder {
             this.types = types;
         }
 
-        @Override
         int setting(int i) {
             switch (i) {
                 case 0: return pairs;
@@ -745,7 +744,6 @@ public final class EnumerativeCoder {
             return desk.wordEnds(width - 1 - i, depthAfter(depth, letter), types);
         }
 
-        @Override
         boolean accepts(int[] row, Desk desk) {
             int depth = 0;
             long open = 0;
@@ -760,7 +758,6 @@ public final class EnumerativeCoder {
             return depth == 0;
         }
 
-        @Override
         long placeOf(int[] row, Desk desk) {
             long place = 0;
             int depth = 0;
@@ -776,7 +773,6 @@ public final class EnumerativeCoder {
             return place;
         }
 
-        @Override
         void lay(long place, int[] row, Desk desk) {
             long rest = place;
             int depth = 0;
@@ -798,7 +794,6 @@ public final class EnumerativeCoder {
         }
 
         /** The mirror image. */
-        @Override
         void turn(int[] row, int[] result, Desk desk) {
             for (int i = 0; i < width; i++) {
                 set(result, i, at(row, width - 1 - i) ^ 1);
@@ -829,12 +824,10 @@ public final class EnumerativeCoder {
             super(TREES, nodes, size);
         }
 
-        @Override
         int setting(int i) {
             return i == 0 ? width : 0;
         }
 
-        @Override
         boolean accepts(int[] row, Desk desk) {
             return measure(row, width, desk.sizes);
         }
@@ -864,7 +857,6 @@ public final class EnumerativeCoder {
             }
         }
 
-        @Override
         long placeOf(int[] row, Desk desk) {
             measure(row, width, desk.sizes);
             for (int node = width - 1; node >= 0; node--) {
@@ -885,7 +877,6 @@ public final class EnumerativeCoder {
             return at(desk.ranks, 0);
         }
 
-        @Override
         void lay(long place, int[] row, Desk desk) {
             set(desk.sizes, 0, width);
             set(desk.ranks, 0, place);
@@ -919,7 +910,6 @@ public final class EnumerativeCoder {
         }
 
         /** The mirror image. */
-        @Override
         void turn(int[] row, int[] result, Desk desk) {
             measure(row, width, desk.sizes);
             set(desk.starts, 0, 0);
@@ -966,7 +956,6 @@ public final class EnumerativeCoder {
             this.greatest = greatest;
         }
 
-        @Override
         int setting(int i) {
             switch (i) {
                 case 0: return width;
@@ -975,7 +964,6 @@ public final class EnumerativeCoder {
             }
         }
 
-        @Override
         boolean accepts(int[] row, Desk desk) {
             int sum = 0;
             int last = greatest;
@@ -990,7 +978,6 @@ public final class EnumerativeCoder {
             return sum == width;
         }
 
-        @Override
         long placeOf(int[] row, Desk desk) {
             long place = 0;
             int rest = width;
@@ -1003,7 +990,6 @@ public final class EnumerativeCoder {
             return place;
         }
 
-        @Override
         void lay(long place, int[] row, Desk desk) {
             long left = place;
             int rest = width;
@@ -1021,7 +1007,6 @@ public final class EnumerativeCoder {
         }
 
         /** The conjugate. */
-        @Override
         void turn(int[] row, int[] result, Desk desk) {
             for (int i = 0; i < width; i++) {
                 int greater = 0;
@@ -1049,7 +1034,6 @@ public final class EnumerativeCoder {
             this.threes = threes;
         }
 
-        @Override
         int setting(int i) {
             switch (i) {
                 case 0: return zeros;
@@ -1066,7 +1050,6 @@ public final class EnumerativeCoder {
             }
         }
 
-        @Override
         boolean accepts(int[] row, Desk desk) {
             layOutLetters(desk.letters);
             for (int i = 0; i < width; i++) {
@@ -1079,7 +1062,6 @@ public final class EnumerativeCoder {
             return true;
         }
 
-        @Override
         long placeOf(int[] row, Desk desk) {
             layOutLetters(desk.letters);
             long place = 0;
@@ -1109,7 +1091,6 @@ public final class EnumerativeCoder {
             return ways;
         }
 
-        @Override
         void lay(long place, int[] row, Desk desk) {
             layOutLetters(desk.letters);
             long rest = place;
@@ -1129,7 +1110,6 @@ public final class EnumerativeCoder {
         }
 
         /** The reversed arrangement. */
-        @Override
         void turn(int[] row, int[] result, Desk desk) {
             for (int i = 0; i < width; i++) {
                 set(result, i, at(row, width - 1 - i));
