@@ -453,7 +453,7 @@ public final class EnumerativeCoder {
 
     private static final class Subsets extends Family {
         private static final int LEXICOGRAPHIC = 0;
-        private static final int REVOLVING_DOOR = 2; // the colexicographic order, 1, stands between them
+        private static final int REVOLVING_DOOR = 2;
 
         private final int n;
         private final int order;
@@ -493,7 +493,7 @@ public final class EnumerativeCoder {
             for (int i = 0; i < width; i++) {
                 int element = at(row, i);
                 if (order == REVOLVING_DOOR) {
-                    // The objects that end with this element stand last, in reverse order.
+                    // Up to this element, the objects that end with it stand last, in reverse order.
                     place = desk.binomial(element + 1, i + 1) - 1 - place;
                 } else {
                     place += desk.binomial(element, i + 1);
@@ -737,11 +737,10 @@ public final class EnumerativeCoder {
             return isOpening(letter) || depth > 0 && (open & 1) == letter >> 1;
         }
 
+        /** In how many ways a word can end after a letter at a place, 0 if the letter can't stand there. */
         private long waysAfter(int letter, int i, int depth, long open, Desk desk) {
-            if (letter >= 2 * types || !mayFollow(letter, depth, open)) {
-                return 0L;
-            }
-            return desk.wordEnds(width - 1 - i, depthAfter(depth, letter), types);
+            return mayFollow(letter, depth, open)
+                    ? desk.wordEnds(width - 1 - i, depthAfter(depth, letter), types) : 0L;
         }
 
         boolean accepts(int[] row, Desk desk) {
