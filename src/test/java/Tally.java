@@ -5,8 +5,15 @@ final class Tally {
     private static final int SHOWN = 40;
     private static int compared = 0;
     private static int wrong = 0;
+    private static String sentence = "";
 
     private Tally() {
+    }
+
+    /** Names the sentence of the document that the next comparisons test, and gives a coder for them. */
+    static EnumerativeCoder about(String tested) {
+        sentence = tested + ": ";
+        return new EnumerativeCoder();
     }
 
     static void same(String what, long got, long want) {
@@ -49,7 +56,7 @@ final class Tally {
     private static void complain(String text) {
         wrong++;
         if (wrong <= SHOWN) {
-            System.out.println(text);
+            System.out.println(sentence + text);
         }
     }
 
