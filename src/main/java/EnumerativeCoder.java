@@ -345,6 +345,7 @@ public final class EnumerativeCoder {
 
         private final long[] binomials = binomialTriangle();
         private final int[] partitionCounts = partitionTriangle();
+        private final long[] treeCounts = treeRow();
         /** For trees: the number of nodes of the subtree of each node, in preorder. */
         private final int[] sizes = new int[PLACES];
         /** For trees: where the subtree of each node begins in the result; for words: the open nodes. */
@@ -385,6 +386,20 @@ public final class EnumerativeCoder {
             return triangle;
         }
 
+        /** A tree with a root has a left and a right subtree, which share the other nodes. */
+        private static long[] treeRow() {
+            long[] counts = new long[MOST_NODES + 1];
+            set(counts, 0, 1L);
+            for (int nodes = 1; nodes <= MOST_NODES; nodes++) {
+                long ways = 0;
+                for (int left = 0; left < nodes; left++) {
+                    ways += at(counts, left) * at(counts, nodes - 1 - left);
+                }
+                set(counts, nodes, ways);
+            }
+            return counts;
+        }
+
         private long binomial(int n, int k) {
             return k < 0 || k > n || n > PLACES ? 0L : at(binomials, spot(n, k));
         }
@@ -398,19 +413,18 @@ public final class EnumerativeCoder {
         }
 
         /** In how many ways so many letters can end a word in which so many brackets are open. */
-        private long wordEnds(int letters, int open, int types) {
-            if (open < 0 || open > letters) {
+        private long wordEnds(int toCome, int open, int types) {
+            if (open < 0 || open > toCome) {
                 return 0L;
             }
-            int opening = (letters - open) / 2;
-            long shapes = binomial(letters, opening) - binomial(letters, opening - 1);
+            int opening = (toCome - open) / 2;
+            long shapes = binomial(toCome, opening) - binomial(toCome, opening - 1);
             // The closing brackets have no choice of their types.
             return types == 2 ? shapes << opening : shapes;
         }
 
-        /** How many trees have so many nodes: as many as words of one type have pairs. */
         private long trees(int nodes) {
-            return wordEnds(2 * nodes, 0, 1);
+            return at(treeCounts, nodes);
         }
 
         private long arrangements(int zeros, int ones, int twos, int threes) {
